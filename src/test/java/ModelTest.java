@@ -8,7 +8,7 @@ import java.util.Random;
 
 /** Many runs of calls by chance (always the same ones), each answer held against Model's. */
 public final class ModelTest {
-    private static final int RUNS = 1500;
+    private static final int RUNS = 300;
     private static final String[] SPOILERS = {"cache", "line 0", ";", "hit", "99999", "100000", "A", "  ", "8", "32", "65536",
         "saw 3 miss", "unsure 1 1 1", "read 1 1", "abcdefghi", "write 0 0 0", "", "\u00e9", "saw 0 hit", "lately", "sets"};
 

@@ -210,6 +210,24 @@ public final class PromisesTest {
         c.passed("nothing CACHED", x, x.lines(), 0);
         c.passed("memory anew", x, x.memory(1, 0), 0);
         c.due("back to an old image", x.back(0), false);
+        againAndAgain(x);
+    }
+
+    /** What an earlier text told is gone, whether it was taken or not. */
+    private static void againAndAgain(PackedCache x) {
+        c.due("all sorts", Check.tell(x, ONE + ";line 1 9 9 9 9 9 9 9 9;read 0 0;unsure 0 0 1;saw 0 hit"), 1);
+        c.passed("no fits", x, x.fits(), 0);
+        c.due("all sorts and a fault", Check.tell(x, ONE + ";line 2 9 9 9 9 9 9 9 9;read 0 0;unsure 0 0 1;saw 0 miss;x"), NONE);
+        c.due("the CACHE stays, to its seen ones", x.fits(), 0);
+        for (int turn = 0; turn < 2; turn++) {
+            c.due("a plain one", Check.tell(x, "cache sets 1 ways 1 lately"), 0);
+            c.passed("memory is 0", x, x.memory(1, 0) + x.memory(2, 0), 0);
+            c.due("no lines", x.size(3), 0);
+            c.due("nothing unsure", x.size(5), 0);
+            c.due("nothing seen", x.size(6), 0);
+            c.passed("one fit", x, x.fits(), 1);
+        }
+        c.due("line 1 is told once", Check.tell(x, ONE + ";line 1 9 9 9 9 9 9 9 9"), 0);
     }
 
     // Terms I
@@ -251,6 +269,15 @@ public final class PromisesTest {
         c.fault(ONE + ";abcdefghi", 1, 27);
         c.fault(ONE + ";read 0 0 ,", 1, 36);
         c.fault("-", 1, 0);
+        c.fault("cache sets - ways 1 lately", 1, 11);
+        c.fault("cache sets / ways 1 lately", 1, 11);
+        c.fault("cache sets : ways 1 lately", 1, 11);
+        c.fault("cache `", 1, 6);
+        c.fault("cache {", 1, 6);
+        c.fault(ONE + ";read 1 -", 1, 34);
+        c.fault(ONE + ";head 1 1", 1, 27);
+        c.fault(ONE + ";reads 1 1", 1, 27);
+        c.fault(ONE + ";write 1 123456", 1, 35);
     }
 
     private static void faultsOfBounds() {
@@ -265,6 +292,7 @@ public final class PromisesTest {
         c.fault(ONE + ";read 31 8", 4, 35);
         c.fault(ONE + ";write 32 0 0", 4, 33);
         c.fault(ONE + ";write 0 8 0", 4, 35);
+        c.fault(ONE + ";write 0 7 65536", 4, 37);
         c.fault(ONE + ";write 0 7 99999", 4, 37);
         c.fault(ONE + ";unsure 32 0 0", 4, 34);
         c.fault(ONE + ";unsure 31 8 0", 4, 37);

@@ -53,6 +53,7 @@ public final class EdgesTest {
         undoneActs();
         threeImages();
         imagesOfEachCache();
+        manyActsBehindAnImage();
         led();
         c.end();
     }
@@ -609,6 +610,34 @@ public final class EdgesTest {
         c.passed("which are", x, x.fitAt(0), 3);
         c.passed("the last HITS still", x, x.runStep(2), 1);
         c.passed("none goes", x, x.runVictims(), 0);
+        // line 0 takes 3 SEGMENTS as told, 4 by the first other one alone
+        x = Check.of("cache sets 1 ways 1 lately;line 0 0 0 0 0 0 0 0 40000;unsure 0 0 300;read 1 0;read 0 0;read 1 0;saw 2 hit");
+        c.passed("the last HITS as told", x, x.runHits(), 1);
+        c.passed("as it was seen", x, x.judge(), -2);
+        c.passed("by none of the other ones", x, x.could(), 0);
+        c.passed("one set", x, x.fits(), 1);
+    }
+
+    // what is no longer kept to be undone goes on from an IMAGE in the same order
+    private static void manyActsBehindAnImage() {
+        PackedCache x = Check.of("cache sets 1 ways 2 lately");
+        for (int l = 0; l < 4; l++) {
+            x.read(l, 0);
+        }
+        x.image();
+        x.back(0);
+        x.read(0, 0);
+        for (int k = 0; k < 16; k++) {
+            x.read(3, 0);
+        }
+        c.due("sixteen", x.size(7), 16);
+        for (int k = 0; k < 16; k++) {
+            c.due("undone", x.undo(), true);
+        }
+        int[] order = {0, 3, 2, 1};
+        for (int k = 0; k < 4; k++) {
+            c.passed("as after the first of seventeen", x, x.tag(0, k), order[k]);
+        }
     }
 
     // of like ones the one last USED longest ago, whether its number is the less or the greater
@@ -694,6 +723,11 @@ public final class EdgesTest {
                 c.passed("drawnHits(" + seed + ", " + n + ")", x, x.drawnHits(seed, n), hits);
                 c.passed("drawnBacks(" + seed + ", " + n + ")", x, x.drawnBacks(seed, n), backs);
             }
+            PackedCache z = Check.of(texts[k]);
+            for (int l = 0; l < 6; l++) {
+                z.write(l, l, 200);
+            }
+            c.passed("drawnHits as the first that reckons", z, z.drawnHits(seed, 200), hits);
             c.due("some HIT", hits > 0, true);
             c.due("some are WRITTEN BACK", backs > 0, true);
         }

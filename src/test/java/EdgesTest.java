@@ -41,6 +41,7 @@ public final class EdgesTest {
         neverBelowTheirBytes();
         noUnsureWord();
         noFits();
+        sixSeen();
         noSteps();
         eachRunAlone();
         waysUpToFour();
@@ -539,6 +540,26 @@ public final class EdgesTest {
             c.passed("nothing to ask", x, x.ask(), -2);
             c.passed("nothing left", x, x.askLeaves(), -2);
             c.passed("the second seen isn't so", x, x.judge(), 1);
+        }
+    }
+
+    // as many seen ones as may be told, and fewer behind them
+    private static void sixSeen() {
+        String text = "cache sets 1 ways 1 lately" + ";read 0 0".repeat(7);
+        PackedCache x = new PackedCache();
+        for (int n = 6; n >= 0; n--) {
+            StringBuilder so = new StringBuilder(text);
+            for (int k = 0; k < n; k++) {
+                so.append(";saw ").append(6 - k).append(" hit");
+            }
+            c.due("so many are seen", Check.tell(x, so.toString()), 7);
+            c.passed("all " + n + " are so", x, x.judge(), -2);
+            c.passed("one set fits", x, x.fits(), 1);
+            if (n > 0) {
+                Check.tell(x, so.substring(0, so.length() - 3) + "miss");
+                c.passed("but for the last of " + n, x, x.judge(), n - 1);
+                c.passed("no set fits", x, x.fits(), 0);
+            }
         }
     }
 

@@ -181,6 +181,11 @@ public final class TextEdgesTest {
                 c.fault("cache sets 1 ways 1 " + (char) sign, 1, 20);
                 c.fault(ONE + (char) sign, 1, 26);
                 c.fault(ONE + ";read 0 " + (char) sign + "0", 1, 34);
+                c.fault(ONE + ";read 31 " + (char) sign, 1, 35);
+                c.fault(ONE + ";read " + (char) sign, 1, 32);
+                c.fault(ONE + ";unsure 1 1 5;unsure 1 " + (char) sign, 1, 49);
+                c.fault(ONE + ";" + (char) sign, 1, 27);
+                c.fault(ONE + ";read 0 0;saw 0 " + (char) sign, 1, 42);
             }
         }
     }
@@ -194,6 +199,12 @@ public final class TextEdgesTest {
         c.fault(ONE + ";write 31 000007 9", 1, 36);
         c.fault(ONE + ";write 31 7 000009", 1, 38);
         c.fault("cache sets 00005 ways 1", 4, 11);
+        c.fault(ONE + " abcdefghi", 1, 27);
+        c.fault(ONE + " abcdefghi read 0 0", 1, 27);
+        c.fault(ONE + ";read 0 0 123456", 1, 36);
+        c.fault(ONE + ";read 0 0 123456;read 0 0", 1, 36);
+        c.fault(ONE + ";123456", 1, 27);
+        c.fault(ONE + ";abcdefghi 5", 1, 27);
         c.fault("cache sets 000005 ways 1", 1, 11);
     }
 

@@ -1289,12 +1289,8 @@ public final class PackedCache {
             return sets < 1 ? 0 : l % sets;
         }
 
-        private int stride() {
-            return Math.max(sets, 1);
-        }
-
         int tagsIn(int s, int but) {
-            int step = stride();
+            int step = Math.max(sets, 1);
             int count = 0;
             for (int l = s; l < LINES; l += step) {
                 if (used[l] > 0 && l != but) {
@@ -1305,7 +1301,7 @@ public final class PackedCache {
         }
 
         int segmentsIn(int s, int but) {
-            int step = stride();
+            int step = Math.max(sets, 1);
             int count = 0;
             for (int l = s; l < LINES; l += step) {
                 if (used[l] > 0 && l != but) {
@@ -1316,7 +1312,7 @@ public final class PackedCache {
         }
 
         int dirtyIn(int s) {
-            int step = stride();
+            int step = Math.max(sets, 1);
             int count = 0;
             for (int l = s; l < LINES; l += step) {
                 count += dirty[l];
@@ -1325,7 +1321,7 @@ public final class PackedCache {
         }
 
         int usedSince(int l) {
-            int step = stride();
+            int step = Math.max(sets, 1);
             int count = 0;
             for (int m = setOf(l); m < LINES; m += step) {
                 if (used[m] > 0 && last[m] > last[l]) {
@@ -1336,7 +1332,7 @@ public final class PackedCache {
         }
 
         int nextVictim(int s, int but) {
-            int step = stride();
+            int step = Math.max(sets, 1);
             int best = NONE;
             for (int l = s; l < LINES; l += step) {
                 if (used[l] > 0 && l != but && (best < 0 || goesAhead(l, best))) {

@@ -793,6 +793,31 @@ public final class PromisesTest {
         x = Check.of(ONE);
         c.passed("ask, nothing unsure", x, x.ask(), -2);
         c.passed("askLeaves, nothing unsure", x, x.askLeaves(), -2);
+        asksInOrder();
+    }
+
+    /** The FITS are parted best (3 and 3) by the WORD of line 9, wherever it is told; by each other one 2 and 4. */
+    private static void asksInOrder() {
+        String[] told = {";unsure 9 0 5", ";unsure 0 0 300", ";unsure 0 7 40000"};
+        String steps = ";read 1 0;read 0 0;read 1 0;saw 2 hit";
+        PackedCache x = Check.of(ONE + told[0] + told[1] + told[2] + steps);
+        c.passed("ask the first, the others leave more", x, x.ask(), 0);
+        c.passed("askLeaves by the first", x, x.askLeaves(), 3);
+        x = Check.of(ONE + told[1] + told[0] + told[2] + steps);
+        c.passed("ask the one between", x, x.ask(), 1);
+        c.passed("askLeaves by the one between", x, x.askLeaves(), 3);
+        x = Check.of(ONE + told[1] + told[2] + told[0] + steps);
+        c.passed("ask the last", x, x.ask(), 2);
+        c.passed("askLeaves by the last", x, x.askLeaves(), 3);
+        x = Check.of(ONE + told[1] + told[0] + told[2] + ";unsure 8 0 5" + steps);
+        c.passed("ask the first of two that are alike", x, x.ask(), 1);
+        c.passed("askLeaves by each of them", x, x.askLeaves(), 6);
+        x = Check.of(ONE + told[0] + told[1] + told[2] + steps.replace("saw 2 hit", "saw 2 miss"));
+        c.passed("ask not what all agree on", x, x.ask(), 0);
+        c.passed("askLeaves one", x, x.askLeaves(), 1);
+        x = Check.of(ONE + told[1] + told[2] + steps.replace("saw 2 hit", "saw 2 miss"));
+        c.passed("ask what all agree on, if there is no other", x, x.ask(), 0);
+        c.passed("askLeaves all", x, x.askLeaves(), 1);
     }
 
     // 39

@@ -210,6 +210,15 @@ public final class PromisesTest {
         c.passed("nothing CACHED", x, x.lines(), 0);
         c.passed("memory anew", x, x.memory(1, 0), 0);
         c.due("back to an old image", x.back(0), false);
+        x.image();
+        x.image();
+        x.image();
+        c.due("a newer cache", Check.tell(x, "cache sets 2 ways 3 weighed"), 0);
+        x.image();
+        for (int image = 1; image < 3; image++) {
+            c.due("back to the older image " + image, x.back(image), false);
+            c.due("its trouble", x.trouble(), 1);
+        }
         againAndAgain(x);
     }
 
@@ -647,6 +656,7 @@ public final class PromisesTest {
     // 23
     private static void ratios() {
         PackedCache x = Check.of("cache sets 1 ways 4 lately" + FORMS);
+        x.word(32, 0);
         c.passed("1 by 1, upper", x, x.ratio(false), 1);
         c.passed("1 by 1, lower", x, x.ratio(true), 1);
         x.read(7, 0);
@@ -827,6 +837,7 @@ public final class PromisesTest {
         x = Check.of(SURE + ";saw 0 miss;saw 2 miss;saw 1 hit");
         c.passed("the first that isn't", x, x.judge(), 1);
         x = Check.of(SURE + ";saw 2 miss");
+        x.word(32, 0);
         c.passed("as told, not by its STEP", x, x.judge(), 0);
         x = Check.of(ONE);
         c.passed("nothing seen", x, x.judge(), -2);
